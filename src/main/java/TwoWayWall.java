@@ -46,7 +46,7 @@ public final class TwoWayWall {
     private final State draft = new State();
     private final State[] images = new State[2];
     private final Tape tape = new Tape();
-    private final TableReader tableReader = new TableReader();
+    private final TableReader tableReader = new TableReader(tape, draft);
     private final Readings readings = new Readings();
     private final PairTable allPairs = new PairTable();
     private final PairTable cellPairs = new PairTable();
@@ -135,7 +135,7 @@ public final class TwoWayWall {
 
     public int tables() {
         draft.copyFrom(now);
-        int clauses = tableReader.tell(tape, draft);
+        int clauses = tableReader.tell();
         faultPlace = tableReader.faultPlace;
         tape.length = 0;
         if (clauses == NONE) {
@@ -597,15 +597,19 @@ public final class TwoWayWall {
     }
 
     private void listSets(int cell, boolean isAsked, int strokes) {
-        int kept = ALL_STROKES & ~now.gone[cell];
+        int gone = now.gone[cell];
+        int kept = now.painted[cell] & ~gone;
+        int some = 0;
         cellPairs.clear();
-        for (int set = 0; set < SETS; set++) {
-            boolean mayBe = ((set ^ now.painted[cell]) & kept) == 0;
-            if (mayBe && !isAsked) {
+        for (int i = 0; i < 1 << Integer.bitCount(gone); i++) {
+            int set = kept | some;
+            if (!isAsked) {
                 cellPairs.add(readings, set, 0);
-            } else if (mayBe && (set & strokes) == strokes) {
+            } else if ((set & strokes) == strokes) {
                 cellPairs.add(readings, set, set | (ALL_STROKES & ~set) << STROKES);
             }
+            // The borrow runs through the bits that are not gone: this is the next higher part.
+            some = some - gone & gone;
         }
     }
 
@@ -683,26 +687,6 @@ public final class TwoWayWall {
             cells = n;
         }
 
-        int seenInWest(int set) {
-            int seen = 0;
-            for (int i = 0; i < STROKES; i++) {
-                if ((set >> i & 1) != 0) {
-                    seen |= 1 << mirror[i] - 1;
-                }
-            }
-            return seen;
-        }
-
-        int costOfSet(int set) {
-            int cost = 0;
-            for (int i = 0; i < STROKES; i++) {
-                if ((set >> i & 1) != 0) {
-                    cost += costs[i];
-                }
-            }
-            return cost;
-        }
-
         int wash(int seed, int hard) {
             long s = seed;
             int off = 0;
@@ -764,16 +748,6 @@ public final class TwoWayWall {
 
         int letterOf(int word, int i) {
             return wordLetters[word * LONGEST_WORD + i];
-        }
-
-        int kindOfSeen(int seen) {
-            for (int letter = 0; letter < LETTERS; letter++) {
-                boolean hasAll = (seen & must[letter]) == must[letter];
-                if (isTold(letter) && hasAll && (seen & mustNot[letter]) == 0) {
-                    return letter;
-                }
-            }
-            return GAP;
         }
     }
 
@@ -884,17 +858,20 @@ public final class TwoWayWall {
         /** Above any number that can be, so that long rows of digits do not wrap around. */
         private static final int TOO_MUCH = 1000;
 
-        private Tape tape;
-        private State draft;
+        private final Tape tape;
+        private final State draft;
         private int start;
         private int behind;
         private int kind;
         int faultPlace = NONE;
 
+        TableReader(Tape tape, State draft) {
+            this.tape = tape;
+            this.draft = draft;
+        }
+
         /** Tells all clauses to the draft: how many; NONE, with faultPlace, if one can't be. */
-        int tell(Tape text, State told) {
-            tape = text;
-            draft = told;
+        int tell() {
             behind = 0;
             faultPlace = NONE;
             step();
@@ -1129,12 +1106,35 @@ public final class TwoWayWall {
         final int[] eastKind = new int[SETS];
         final int[] westKind = new int[SETS];
         final int[] cost = new int[SETS];
+        private final int[] seenInEast = new int[SETS];
+        private final int[] seenInWest = new int[SETS];
 
         void make(State state) {
-            for (int set = 0; set < SETS; set++) {
-                eastKind[set] = state.east.kindOfSeen(set);
-                westKind[set] = state.west.kindOfSeen(state.seenInWest(set));
-                cost[set] = state.costOfSet(set);
+            for (int i = 0; i < STROKES; i++) {
+                int bit = 1 << i;
+                for (int lower = 0; lower < bit; lower++) {
+                    cost[bit + lower] = cost[lower] + state.costs[i];
+                    seenInEast[bit + lower] = bit + lower;
+                    seenInWest[bit + lower] = seenInWest[lower] | 1 << state.mirror[i] - 1;
+                }
+            }
+            listKinds(state.east, seenInEast, eastKind);
+            listKinds(state.west, seenInWest, westKind);
+        }
+
+        /** From z to a, so that the first letter that a set can be is the one that stays. */
+        private static void listKinds(Tongue tongue, int[] seen, int[] kinds) {
+            Arrays.fill(kinds, GAP);
+            for (int letter = LETTERS - 1; letter >= 0; letter--) {
+                if (tongue.isTold(letter)) {
+                    int must = tongue.must[letter];
+                    int asked = must | tongue.mustNot[letter];
+                    for (int set = 0; set < SETS; set++) {
+                        if ((seen[set] & asked) == must) {
+                            kinds[set] = letter;
+                        }
+                    }
+                }
             }
         }
 
