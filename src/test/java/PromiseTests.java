@@ -226,6 +226,9 @@ public final class PromiseTests {
         faultAt("cost 11 1", 5);
         faultAt("cost a 1", 5);
         faultAt("cost 1 a", 7);
+        faultAt("cost 1 100", 7);
+        faultAt("word east 8 b", 10);
+        faultAt("word east 1 abcdefg", 12);
         faultAt("cost 1 4294967296", 7);
         faultAt("cost 1 1,", 8);
         faultAt("drop east", 9);
@@ -424,6 +427,29 @@ public final class PromiseTests {
         due(22, "nearAt(15)", x.nearAt(15), 0);
     }
 
+    /** Of alike cost the lowest set, though its pair of letters is met later. */
+    private static void nearestIsLowest() {
+        TwoWayWall x = told("east a 1;east b 2;west c 3;cost 1 9;cost 2 3;cost 4 3;cost 3 9;cost 5 0");
+        x.say(0, 2);
+        x.say(1, 2);
+        due(21, "near(0)", x.near(0), 1);
+        due(21, "near(1)", x.near(1), 9);
+        due(22, "nearAt(0)", x.nearAt(0), 4);
+        TwoWayWall y = told("east d 5;east a 1;west a 5 not 1;west d 1;cost 1 5;cost 5 5");
+        y.say(0, 25);
+        y.say(1, 25);
+        due(21, "near(1)", y.near(1), 0);
+        y.hush(0);
+        y.say(0, 3);
+        due(22, "nearAt(0)", y.nearAt(0), 16);
+        TwoWayWall z = told("west a 4 not 123;west w 4;east f 2 not 1;cost 1 5");
+        z.say(0, 25);
+        z.say(1, 22);
+        due(21, "near(0)", z.near(0), 1);
+        due(21, "near(1)", z.near(1), 2);
+        due(22, "nearAt(0)", z.nearAt(0), 10);
+    }
+
     private static void stories() {
         TwoWayWall x = told("east a 1;east b 2;west a 3;west b 4;word east 0 ab;word east 0 ba;word east 0 ab;"
             + "word east 1 a;word west 2 a;word west 3 bb;cost 1 4;cost 3 7");
@@ -509,6 +535,40 @@ public final class PromiseTests {
             }
         }
         return ways;
+    }
+
+    /** Which of alike walls is first may be told by the last cells alone. */
+    private static void firstByItsEnd(String words) {
+        TwoWayWall x = told("east a 1;east b 2;" + words);
+        x.mean(0, 0);
+        x.mean(0, 1);
+        x.size(10);
+        int[] due = {1, 1, 1, 1, 1, 1, 0, 1, 1, 2};
+        due(26, "price", x.price(), 9);
+        for (int i = 0; i < 10; i++) {
+            due(27, "first(" + i + ")", x.first(i), due[i]);
+        }
+    }
+
+    private static void eightWords() {
+        TwoWayWall x = told("east a 1;east b 2;east c 3;east d 4;east e 5;east f 6;east g 7;east h 17");
+        type(x, "word east 0 a;word east 0 b;word east 0 c;word east 0 d;word east 0 e;word east 0 f;word east 0 g;"
+            + "word east 0 ga;word west 0 a;west a 7");
+        x.tables();
+        x.mean(0, 0);
+        x.size(1);
+        due(25, "tells", x.tells(), 63);
+        x.lost(0, 127);
+        due(30, "may", x.may(), 64);
+        x.mean(1, 0);
+        due(25, "tells", x.tells(), 64);
+        TwoWayWall y = told("east a 1234;east b 123;east c 124;east d 134;east e 234;east f 12;east g 13;east h 14");
+        type(y, "word east 2 a;word east 2 b;word east 2 c;word east 2 d;word east 2 e;word east 2 f;word east 2 g;"
+            + "word east 2 h");
+        y.tables();
+        y.mean(0, 2);
+        y.size(1);
+        due(25, "tells", y.tells(), 64);
     }
 
     private static void lostStrokes() {
@@ -710,6 +770,38 @@ public final class PromiseTests {
         due(39, "count(7)", x.count(7), 1);
     }
 
+    /** What came in the place of what an image keeps must give way again. */
+    private static void imagesKeepWhatIsOverwritten() {
+        TwoWayWall x = told("east a 1;west b 2;word east 3 a;word west 4 b");
+        x.say(0, 0);
+        x.say(1, 1);
+        x.mean(0, 3);
+        x.mean(1, 4);
+        x.yard(0, 1, 2, 3, 4);
+        x.yard(2, 3, 2, 3, 5);
+        x.size(1);
+        x.image(0);
+        x.hush(0);
+        x.say(0, 5);
+        x.hush(1);
+        x.say(1, 5);
+        x.forget(0);
+        x.mean(0, 5);
+        x.forget(1);
+        x.mean(1, 5);
+        x.drop(0);
+        x.yard(0, 0, 0, 0, 77);
+        due(39, "near(0)", x.near(0), 2);
+        due(39, "tells", x.tells(), 0);
+        due(39, "letting(2)", x.letting(2), 77);
+        due(39, "back(0)", x.back(0), 0);
+        due(39, "near(0)", x.near(0), 0);
+        due(39, "nearAt(0)", x.nearAt(0), 3);
+        due(39, "tells", x.tells(), 32);
+        due(39, "letting(1)", x.letting(1), 4);
+        due(39, "letting(3)", x.letting(3), 9);
+    }
+
     private static void status() {
         TwoWayWall x = new TwoWayWall();
         x.size(0);
@@ -757,11 +849,16 @@ public final class PromiseTests {
         reading();
         together();
         texts();
+        nearestIsLowest();
         stories();
+        firstByItsEnd("word east 0 aaaaaa;word east 1 aba;word east 1 aab");
+        firstByItsEnd("word east 0 aaaaaa;word east 1 aab;word east 1 aba");
+        eightWords();
         lostStrokes();
         yards();
         rain();
         imagesAndCounts();
+        imagesKeepWhatIsOverwritten();
         status();
         System.out.println(asked + " answers, " + wrong + " of them not as due");
         if (wrong != 0) {
