@@ -944,6 +944,10 @@ public final class TwoWayWall {
             if (tongue == null) {
                 return failAt(start);
             }
+            // "word" stands ahead of all else in its clause: without room, it is the first fault.
+            if (tongue.words >= MOST_WORDS) {
+                return failAt(wordPlace);
+            }
             step();
             int meaning = number();
             if (meaning < 0 || meaning >= MEANINGS) {
@@ -952,9 +956,6 @@ public final class TwoWayWall {
             step();
             if (kind != LETTER_ROW || behind - start > LONGEST_WORD) {
                 return failAt(start);
-            }
-            if (tongue.words >= MOST_WORDS) {
-                return failAt(wordPlace);
             }
             addWord(tongue, meaning);
             step();

@@ -226,14 +226,13 @@ public final class ModelTests {
                     return here;
                 }
                 got.add(token);
+                if (head.equals("word") && got.size() == 1 && wordsOf(token).size() == 8) {
+                    return start;
+                }
             }
             switch (head) {
                 case "word":
-                    List<String> words = k.words.get(got.get(0).equals("east") ? 0 : 1);
-                    if (words.size() == 8) {
-                        return start;
-                    }
-                    words.add(Integer.parseInt(got.get(1)) + got.get(2));
+                    wordsOf(got.get(0)).add(Integer.parseInt(got.get(1)) + got.get(2));
                     return -1;
                 case "mirror":
                     for (int i = 0; i < 7; i++) {
@@ -249,6 +248,10 @@ public final class ModelTests {
                 default:
                     return not(head.equals("east") ? 0 : 1, got);
             }
+        }
+
+        private List<String> wordsOf(String tongue) {
+            return k.words.get(tongue.equals("east") ? 0 : 1);
         }
 
         private int not(int tongue, List<String> got) {
@@ -780,13 +783,15 @@ public final class ModelTests {
         }
     }
 
+    private static final class NotAsDue extends RuntimeException {
+    }
+
     /** One row of calls on a new object. */
     private static final class Run {
         final Random r;
         final TwoWayWall x = new TwoWayWall();
         final Slow slow = new Slow();
         final List<String> log = new ArrayList<>();
-        boolean wrong;
         int asked;
         int answered;
 
@@ -795,9 +800,6 @@ public final class ModelTests {
         }
 
         void call(String call, int... a) {
-            if (wrong) {
-                return;
-            }
             long want = slow.answer(call, a);
             long got = ask(x, call, a);
             asked++;
@@ -807,9 +809,9 @@ public final class ModelTests {
             }
             answered++;
             if (got != want) {
-                wrong = true;
                 System.out.println(call + Arrays.toString(a) + " answered " + got + ", due is " + want);
                 System.out.println("  behind " + log);
+                throw new NotAsDue();
             }
         }
 
@@ -1056,6 +1058,23 @@ public final class ModelTests {
             call("tables");
         }
 
+        /** Words until a tongue is full or nearly so, then texts of words that are spoilt. */
+        void crowd() {
+            String tongue = r.nextBoolean() ? "east" : "west";
+            StringBuilder b = new StringBuilder("cost 1 1");
+            for (int i = slow.wordsOf(tongue).size(); i < 8 - r.nextInt(2); i++) {
+                b.append(";word ").append(tongue).append(" 1 ").append(word());
+            }
+            type(b.toString());
+            call("tables");
+            for (int i = 0; i < 5; i++) {
+                String text = "cost 2 2;word " + tongue + blanks() + "0 " + word() + ";" + clause() + ";word east 1 a";
+                type(r.nextInt(3) > 0 ? spoil(text) : text);
+                call("tables");
+                call("fault");
+            }
+        }
+
         void story() {
             for (int tongue = 0; tongue < 2; tongue++) {
                 call("forget", tongue);
@@ -1077,7 +1096,17 @@ public final class ModelTests {
             }
         }
 
-        boolean go() {
+        /** Whether all answers were as due; the first that is not ends the run. */
+        boolean goesWell() {
+            try {
+                go();
+                return true;
+            } catch (NotAsDue end) {
+                return false;
+            }
+        }
+
+        private void go() {
             if (r.nextInt(3) > 0) {
                 tablesThatFit();
             } else {
@@ -1093,13 +1122,14 @@ public final class ModelTests {
                     texts();
                 } else if (luck == 3 && r.nextInt(3) == 0) {
                     yards();
+                } else if (luck == 3 && r.nextInt(6) == 0) {
+                    crowd();
                 } else if (luck < 6) {
                     change();
                 } else {
                     look();
                 }
             }
-            return !wrong;
         }
     }
 
@@ -1111,7 +1141,7 @@ public final class ModelTests {
         Map<String, Integer> told = new TreeMap<>();
         for (int seed = 0; seed < runs && failed < 5; seed++) {
             Run run = new Run(seed);
-            if (!run.go()) {
+            if (!run.goesWell()) {
                 System.out.println("  in the run of seed " + seed);
                 failed++;
             }

@@ -37,10 +37,14 @@ public final class PromiseTests {
 
     private static void faultAt(String text, int place) {
         TwoWayWall x = new TwoWayWall();
+        faultAt(x, text, place);
+        due(9, "count(1) behind '" + text + "'", x.count(1) + x.count(2) + x.count(3) + x.count(4), 0);
+    }
+
+    private static void faultAt(TwoWayWall x, String text, int place) {
         type(x, text);
         due(9, "tables() of '" + text + "'", x.tables(), -6);
         due(10, "fault() of '" + text + "'", x.fault(), place);
-        due(9, "count(1) behind '" + text + "'", x.count(1) + x.count(2) + x.count(3) + x.count(4), 0);
         due(9, "count(10) behind '" + text + "'", x.count(10), 0);
     }
 
@@ -239,6 +243,25 @@ public final class PromiseTests {
         faultAt("word east 0 a;".repeat(9), 112);
     }
 
+    /** West is full: a "word" of it is the first fault, whatever stands behind it in its clause. */
+    private static void wordsWithoutRoom(TwoWayWall x) {
+        faultAt(x, "word west 8 a", 0);
+        faultAt(x, "word west", 0);
+        faultAt(x, "  word west;", 2);
+        faultAt(x, "word west 1 abcdefg", 0);
+        faultAt(x, "word west word west", 0);
+        faultAt(x, "cost 1 2;word west 1 ?", 9);
+        faultAt(x, "cost 1 2,word west 1 a", 8);
+        faultAt(x, "word east 8 a;word west 1 a", 10);
+        faultAt(x, "word east 1 a;word west 1 a", 14);
+        faultAt(x, "word south 1 a", 5);
+        faultAt(x, "word", 4);
+        faultAt(x, "cost 1 2;".repeat(23) + "word west", 207);
+        faultAt(x, "cost 1 2;".repeat(24) + "word west 1 a", 216);
+        due(12, "count(3)", x.count(3), 0);
+        due(12, "count(4)", x.count(4), 8);
+    }
+
     private static void tablesTogether() {
         TwoWayWall x = told("word west 3 ab;word west 3 ab;word west 1 c;word west 2 d");
         due(12, "count(4)", x.count(4), 4);
@@ -260,6 +283,7 @@ public final class PromiseTests {
         due(9, "tables", x.tables(), -6);
         due(10, "fault", x.fault(), 9);
         due(9, "letter", x.letter(0, 0, 0), -1);
+        wordsWithoutRoom(x);
         type(x, "east a 1 not 2;east a 3;cost 2 5;cost 2 6;mirror 2345671");
         due(9, "tables", x.tables(), 5);
         due(11, "letter(0, 0, 0)", x.letter(0, 0, 0), 4);
