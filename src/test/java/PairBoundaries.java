@@ -94,6 +94,10 @@ public final class PairBoundaries {
         Bench.due("partners(25), no gap", x.partners(25), 1 | 1 << 25);
         Bench.due("partners(24), a gap alone", x.partners(24), GAP_BIT);
         Bench.due("partners(-1)", x.partners(GAP), GAP_BIT);
+        TwoWayWall y = Bench.told("east a 1234567;west b 1234567");
+        Bench.due("partners(0), in one way", y.partners(0), 2);
+        Bench.due("partners(-1)", y.partners(GAP), GAP_BIT);
+        Bench.due("pairs(), in one way", y.pairs(), 1);
     }
 
     private static void pairsOfToldOnes() {
@@ -116,19 +120,11 @@ public final class PairBoundaries {
     /** Many letters on both sides, each pair of which has one set at least. */
     private static void manyPairs() {
         Bench.sentence(18, "GO TOGETHER in as many ways");
-        TwoWayWall x = new TwoWayWall();
-        StringBuilder b = new StringBuilder();
-        String[] strokes = {"123", "12", "13", "23", "1", "2", "3"};
-        for (int i = 0; i < 7; i++) {
-            b.append(i == 0 ? "" : ";").append("east ").append((char) ('a' + i)).append(' ').append(strokes[i]);
-            String west = strokes[i].replace('1', '4').replace('2', '5').replace('3', '6');
-            b.append(";west ").append((char) ('s' + i)).append(' ').append(west);
-        }
-        Bench.tell(x, b.toString());
+        TwoWayWall x = Bench.sevenLetters();
         Bench.due("pairs()", x.pairs(), 49);
-        Bench.due("partners(0)", x.partners(0), 127 << 18 | GAP_BIT);
-        Bench.due("pair(0, 18, 0)", x.pair(0, 18, 0), 2);
-        Bench.due("pair(6, 24, 1)", x.pair(6, 24, 1), 36);
+        Bench.due("partners(0)", x.partners(0), 127 | GAP_BIT);
+        Bench.due("pair(0, 0, 0)", x.pair(0, 0, 0), 2);
+        Bench.due("pair(6, 6, 1)", x.pair(6, 6, 1), 36);
     }
 
     private static void says() {
@@ -289,6 +285,19 @@ public final class PairBoundaries {
         Bench.due("nearAt(1)", z.nearAt(1), 0);
     }
 
+    /** Pairs that are as wrong as each other: which is cheaper, or lower, is not told by their order. */
+    private static void lowestOfPairs() {
+        Bench.sentence(22, "then the least COST, then the lowest, CELL by CELL");
+        TwoWayWall x = Bench.told("west a 4 not 123;west w 4;east f 2 not 1;cost 1 5");
+        Bench.fill(x, 1, 25, 22);
+        Bench.due("near(0)", x.near(0), 1);
+        Bench.due("near(1), strokes 2 and 4 or 3 and 4", x.near(1), 2);
+        Bench.due("nearAt(0), the lower", x.nearAt(0), 10);
+        Bench.tell(x, "cost 2 2");
+        Bench.due("near(1), strokes 3 and 4", x.near(1), 2);
+        Bench.due("nearAt(0), the cheaper", x.nearAt(0), 12);
+    }
+
     private static void nearCells() {
         Bench.sentence(22, "CELL i of that WALL. NONE.");
         Bench.asks("nearAt(0)", x -> x.nearAt(0), 9);
@@ -329,6 +338,7 @@ public final class PairBoundaries {
         fewestWrong();
         mostNear();
         dearestNear();
+        lowestOfPairs();
         nearCells();
         Bench.finish(16, 22);
     }

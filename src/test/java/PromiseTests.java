@@ -12,17 +12,8 @@ public final class PromiseTests {
         }
     }
 
-    /** Puts the text behind the tape, whose length must be what it was before: 0. */
     private static void type(TwoWayWall x, String text) {
-        for (int at = 0; at < text.length(); at += 20) {
-            int[] numbers = new int[5];
-            for (int i = 0; i < 20; i++) {
-                int sign = at + i < text.length() ? text.charAt(at + i) : 0;
-                numbers[i / 4] = numbers[i / 4] << 8 | sign;
-            }
-            x.feed(numbers[0], numbers[1], numbers[2], numbers[3], numbers[4]);
-        }
-        x.end(text.length());
+        Bench.type(x, text);
     }
 
     private static TwoWayWall told(String text) {

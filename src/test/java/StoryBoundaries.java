@@ -176,6 +176,132 @@ public final class StoryBoundaries {
         Bench.asks("tells()", z -> z.tells(), 41_472);
     }
 
+    private static void oneTelling() {
+        Bench.sentence(25, "TELLINGS are such WALLS");
+        TwoWayWall x = Bench.told("east a 5 not 123467;word east 0 a;word east 0 aa");
+        mean(x, 0, 0);
+        x.size(1);
+        Bench.due("tells() of one wall alone", x.tells(), 1);
+        Bench.due("price()", x.price(), 1);
+        Bench.due("first(0)", x.first(0), 16);
+        Bench.due("lengths(-1)", x.lengths(-1), 2);
+        Bench.due("lengths(0)", x.lengths(0), 1);
+        Bench.due("lengths(1)", x.lengths(1), 2);
+    }
+
+    /** What was found once must not stay behind a call that changes it. */
+    private static void foundAnew() {
+        Bench.sentence(25, "How many TELLINGS there are");
+        TwoWayWall x = Bench.told("east a 1;west a 1;word east 0 a;word east 1 aa;word west 0 a");
+        x.size(1);
+        Bench.due("tells() of gaps", x.tells(), 64);
+        x.mean(0, 0);
+        Bench.due("tells() behind mean(0, 0)", x.tells(), 0);
+        x.mean(1, 0);
+        Bench.due("tells() behind mean(1, 0)", x.tells(), 64);
+        Bench.due("first(0)", x.first(0), 1);
+        x.image(0);
+        x.forget(1);
+        Bench.due("tells() behind forget(1)", x.tells(), 0);
+        x.forget(0);
+        Bench.due("tells() behind forget(0)", x.tells(), 64);
+        Bench.due("first(0)", x.first(0), 0);
+        x.back(0);
+        Bench.due("first(0) behind back", x.first(0), 1);
+        Bench.tell(x, "cost 1 50");
+        Bench.due("price() behind tables of a cost", x.price(), 50);
+        Bench.tell(x, "mirror 2134567");
+        Bench.due("first(0) behind tables of a mirror", x.first(0), 3);
+        Bench.tell(x, "west a 7");
+        Bench.due("first(0) behind tables of a letter", x.first(0), 65);
+        Bench.tell(x, "drop west a");
+        Bench.due("tells() behind tables of a drop", x.tells(), 0);
+        Bench.tell(x, "word west 0 b;west b 3");
+        Bench.due("first(0) behind tables of a word", x.first(0), 5);
+        x.size(2);
+        Bench.due("tells() behind size", x.tells(), 0);
+        x.size(1);
+        x.paint(0, 127);
+        x.lost(0, 127);
+        Bench.due("tells() behind paint and lost, which they don't touch", x.tells(), 32);
+    }
+
+    private static void words(TwoWayWall x, String tongue, String... words) {
+        StringBuilder b = new StringBuilder();
+        for (String word : words) {
+            b.append(b.length() == 0 ? "" : ";").append("word ").append(tongue).append(" 0 ").append(word);
+        }
+        Bench.tell(x, b.toString());
+    }
+
+    private static void eightLongWords() {
+        Bench.sentence(25, "WORDS of a TONGUE, 8 at most");
+        TwoWayWall x = Bench.sevenLetters();
+        words(x, "east", "abcdef", "bcdefg", "cdefga", "defgab", "efgabc", "fgabcd", "gabcde", "abcdeg");
+        words(x, "west", "gfedcb", "fedcba", "edcbag", "dcbagf", "cbagfe", "bagfed", "agfedc", "gfedca");
+        for (int i = 0; i < 4; i++) {
+            x.mean(0, 0);
+            x.mean(1, 0);
+        }
+        Bench.due("lengths(-1), four words of six are too long", x.lengths(-1), 0);
+        mean(x, 0, 0);
+        mean(x, 1, 0);
+        x.size(6);
+        Bench.due("tells() of six", x.tells(), 8 * 8 * 64);
+        mean(x, 0, 0, 0);
+        mean(x, 1, 0, 0);
+        x.size(13);
+        Bench.due("tells() of thirteen", x.tells(), 64L * 64 * 8192);
+        // The cheapest word of each tongue has all letters but that of three strokes: 2 + 2 + 2 + 1 + 1 + 1.
+        Bench.due("price()", x.price(), 4 * 9);
+        for (int cell = 0; cell < 13; cell++) {
+            x.lost(cell, 127);
+        }
+        Bench.due("may() of thirteen", x.may(), 64L * 64 * 8192);
+        Bench.due("often(6, 7), in the gap", x.often(6, 7), 64L * 64 * 4096);
+        Bench.due("sure(6, 1)", x.sure(6, 1), 63);
+        Bench.due("sure(6, 2)", x.sure(6, 2), 64);
+    }
+
+    private static void wordsThatShareABeginning() {
+        Bench.sentence(25, "A WALL of n CELLS TELLS both, if each is read as WORDS");
+        TwoWayWall x = Bench.sevenLetters();
+        words(x, "east", "a", "b", "a", "c", "a", "b", "d", "a");
+        mean(x, 0, 0);
+        x.size(1);
+        Bench.due("tells() of a, b, c, d, some told again", x.tells(), 4 * 2);
+        TwoWayWall y = Bench.sevenLetters();
+        words(y, "east", "a", "b", "c", "d", "e", "f", "g", "ab");
+        mean(y, 0, 0);
+        y.size(1);
+        Bench.due("tells() of seven letters", y.tells(), 7 * 2);
+        Bench.due("lengths(-1)", y.lengths(-1), 2);
+        TwoWayWall z = Bench.told("east a 12 not 3;east b 2 not 1;east c 3 not 12;east d 4 not 123;east e 5 not 1234;"
+            + "east f 6 not 12345;east g 7 not 123456;east h 1 not 2");
+        words(z, "east", "a", "b", "c", "d", "e", "f", "g", "h");
+        mean(z, 0, 0);
+        z.size(1);
+        Bench.due("tells() of eight letters", z.tells(), 16 + 32 + 16 + 8 + 4 + 2 + 1 + 32);
+        TwoWayWall w = Bench.sevenLetters();
+        words(w, "east", "a", "aa", "ab", "ac", "ad", "ae", "af", "ag");
+        words(w, "west", "g", "gg", "gf", "ge", "gd", "gc", "gb", "ga");
+        w.size(2);
+        mean(w, 0, 0);
+        mean(w, 1, 0);
+        Bench.due("tells() of two", w.tells(), 7 * 7 * 4);
+        w.size(3);
+        mean(w, 0, 0, 0);
+        mean(w, 1, 0, 0);
+        Bench.due("tells() of three", w.tells(), 8);
+        w.size(16);
+        for (int cell = 0; cell < 16; cell++) {
+            w.lost(cell, 127);
+        }
+        Bench.due("may() of sixteen, 2 to the 16 by stroke 7 times 7 to the 10 by words at least", w.may(), TRILLION);
+        w.size(4);
+        Bench.due("may() of four", w.may(), 14 * 14 * 16);
+    }
+
     private static void prices() {
         Bench.sentence(26, "The least COST of TELLINGS. NONE.");
         TwoWayWall x = Bench.told("east a 1234567;word east 0 aaaa;word east 1 aaa;cost 1 99;cost 2 99;cost 3 99");
@@ -218,9 +344,10 @@ public final class StoryBoundaries {
         Bench.due("first(1) of one", x.first(1), -1);
     }
 
-    private static void lowestOfAlike() {
+    /** East's a is stroke 2, its b stroke 1: of ab and ba the latter is lower, whichever is told first. */
+    private static void lowestOfAlike(String words) {
         Bench.sentence(27, "the least COST, of alike ones the lowest as a row of CELLS");
-        TwoWayWall x = Bench.told("east a 2;east b 1 not 2;word east 0 ab;word east 0 ba;word east 1 aaaaaa;word east 2 aaaaaa");
+        TwoWayWall x = Bench.told("east a 2;east b 1 not 2;word east 1 aaaaaa;word east 2 aaaaaa;" + words);
         mean(x, 0, 0);
         x.size(2);
         Bench.due("first(0), ba is lower", x.first(0), 1);
@@ -239,11 +366,32 @@ public final class StoryBoundaries {
         x.size(9);
         Bench.due("first(7), the eighth and the ninth", x.first(7), 1);
         Bench.due("first(8)", x.first(8), 2);
-        Bench.tell(x, "cost 2 0");
+        mean(x, 0, 0, 0, 0);
+        x.size(8);
+        for (int i = 0; i < 8; i++) {
+            Bench.due("first(" + i + ") of three words", x.first(i), (i + 1) % 3);
+        }
+    }
+
+    /** Words of two that differ in the last cell alone, which is the second half's. */
+    private static void lowestByTheLastCell(String words) {
+        Bench.sentence(27, "of alike ones the lowest as a row of CELLS");
+        TwoWayWall x = Bench.told("east a 3;east b 2 not 3;east c 1 not 23;word east 1 aaaaaa;word east 2 aaaaaa;" + words);
+        mean(x, 0, 1, 2, 0);
+        x.size(16);
+        Bench.due("first(15), the lowest", x.first(15), 1);
+        Bench.due("first(14)", x.first(14), 4);
+        Bench.tell(x, "cost 1 2");
+        Bench.due("first(15), the lowest of the cheapest", x.first(15), 2);
+        Bench.tell(x, "cost 2 2");
+        Bench.due("first(15), the cheapest", x.first(15), 4);
+    }
+
+    private static void costAheadOfLowest() {
+        Bench.sentence(27, "the FIRST: the least COST");
+        TwoWayWall x = Bench.told("east a 2;east b 1 not 2;word east 0 ab;word east 0 ba;word east 0 aa;cost 2 0");
         mean(x, 0, 0);
         x.size(2);
-        Bench.due("first(0), cost 1 both", x.first(0), 1);
-        Bench.tell(x, "word east 0 aa");
         Bench.due("first(0), aa is higher but costs less", x.first(0), 2);
         Bench.due("price()", x.price(), 0);
         TwoWayWall y = Bench.told("west a 2;west b 1 not 2;word west 0 ab;word west 0 ba");
@@ -430,9 +578,17 @@ public final class StoryBoundaries {
         wordsThatMeanSo();
         westStory();
         mostTellings();
+        oneTelling();
+        foundAnew();
+        eightLongWords();
+        wordsThatShareABeginning();
         prices();
         firstCells();
-        lowestOfAlike();
+        lowestOfAlike("word east 0 ab;word east 0 ba");
+        lowestOfAlike("word east 0 ba;word east 0 ab");
+        lowestByTheLastCell("word east 0 aa;word east 0 ab;word east 0 ac");
+        lowestByTheLastCell("word east 0 ac;word east 0 ab;word east 0 aa");
+        costAheadOfLowest();
         lengths();
         losses();
         oneWordAtLeast();

@@ -75,6 +75,19 @@ public final class YardBoundaries {
         x.yard(0, 0, 9, 20, 4);
         x.drop(1);
         Bench.due("letting(3), which moved up with its cells", x.letting(3), -1);
+        TwoWayWall moved = new TwoWayWall();
+        moved.yard(7, 7, 0, 0, 1);
+        moved.yard(1, 6, 10, 30, 2);
+        moved.yard(1, 1, 30, 30, 4);
+        moved.yard(6, 6, 10, 10, 8);
+        moved.yard(1, 6, 31, 40, 16);
+        moved.yard(0, 0, 0, 51, 32);
+        moved.drop(0);
+        int[] pairs = {3, 5, 9, 17, 6, 10, 12, 18, 24, 30};
+        int[] rents = {-1, -1, 18, 34, 12, 20, 24, 36, 48, 60};
+        for (int i = 0; i < pairs.length; i++) {
+            Bench.due("letting(" + pairs[i] + ") of those that moved up", moved.letting(pairs[i]), rents[i]);
+        }
         Bench.due("drop(1), the last", x.drop(1), 1);
         Bench.due("drop(0), the only one", x.drop(0), 0);
         Bench.due("drop(0) of none", x.drop(0), -2);
@@ -324,8 +337,11 @@ public final class YardBoundaries {
         x.forget(1);
         x.mean(0, 7);
         x.mean(1, 1);
-        x.drop(1);
-        x.yard(0, 8, 7, 7, 7);
+        for (int i = 0; i < 3; i++) {
+            x.drop(0);
+        }
+        x.yard(0, 8, 0, 51, 7);
+        x.yard(8, 8, 9, 9, 8);
         x.rain(3, 50);
     }
 
@@ -346,8 +362,9 @@ public final class YardBoundaries {
         x.mean(0, 1);
         x.mean(1, 2);
         x.mean(1, 3);
-        x.drop(2);
         x.drop(1);
+        x.drop(0);
+        x.yard(0, 2, 3, 4, 5);
         x.yard(1, 3, 4, 20, 20);
         x.yard(3, 3, 0, 51, 999);
     }

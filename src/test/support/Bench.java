@@ -141,6 +141,18 @@ final class Bench {
         return x;
     }
 
+    /** Letters a .. g are each one set of strokes 1 to 3 in East, 4 to 6 in West; stroke 7 is free. */
+    static TwoWayWall sevenLetters() {
+        StringBuilder b = new StringBuilder();
+        String[] strokes = {"123", "12", "13", "23", "1", "2", "3"};
+        for (int i = 0; i < 7; i++) {
+            b.append(i == 0 ? "" : ";").append("east ").append((char) ('a' + i)).append(' ').append(strokes[i]);
+            String west = strokes[i].replace('1', '4').replace('2', '5').replace('3', '6');
+            b.append(";west ").append((char) ('a' + i)).append(' ').append(west);
+        }
+        return told(b.toString());
+    }
+
     /** Texts of both tongues, so many letters longer. */
     static void fill(TwoWayWall x, int more, int east, int west) {
         for (int i = 0; i < more; i++) {
