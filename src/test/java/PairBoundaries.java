@@ -127,6 +127,34 @@ public final class PairBoundaries {
         Bench.due("pair(6, 6, 1)", x.pair(6, 6, 1), 36);
     }
 
+    /** East's letters are the sets of strokes 1 to 4, West's those of 5 to 7: no two sets are read alike. */
+    private static void asManyPairsAsSets() {
+        Bench.sentence(18, "two LETTERS (or GAPS), one of EAST, one of WEST, GO TOGETHER");
+        String[] east = {"1234", "123", "124", "134", "234", "12", "13", "14", "23", "24", "34", "1", "2", "3", "4"};
+        String[] west = {"567", "56", "57", "67", "5", "6", "7"};
+        StringBuilder b = new StringBuilder("cost 1 1");
+        for (int i = 0; i < 15; i++) {
+            b.append(";east ").append((char) ('a' + i)).append(' ').append(east[i]);
+        }
+        for (int i = 0; i < 7; i++) {
+            b.append(";west ").append((char) ('t' + i)).append(' ').append(west[i]);
+        }
+        TwoWayWall x = Bench.told(b.toString());
+        Bench.due("pairs()", x.pairs(), 15 * 7);
+        for (int i = GAP; i < 15; i++) {
+            Bench.due("partners(" + i + ")", x.partners(i), 127 << 19 | GAP_BIT);
+            Bench.due("pair(" + i + ", 25, 0)", x.pair(i, 25, 0), 1);
+        }
+        Bench.due("pair(14, 25, 1)", x.pair(14, 25, 1), 8 + 64);
+        Bench.due("pair(0, 19, 1)", x.pair(0, 19, 1), 127);
+        Bench.fill(x, 1, 0, 19);
+        Bench.due("near(2), one way", x.near(2), 1);
+        Bench.due("nearAt(0)", x.nearAt(0), 127);
+        Bench.tell(x, "drop west z;drop east o");
+        Bench.due("pairs() behind drops", x.pairs(), 14 * 6);
+        Bench.due("pair(-1, -1, 0) behind drops", x.pair(GAP, GAP, 0), 4);
+    }
+
     private static void says() {
         Bench.sentence(19, "A LETTER (NONE: a GAP) comes behind the TEXT of a TONGUE: how long it is.");
         TwoWayWall x = new TwoWayWall();
@@ -331,6 +359,7 @@ public final class PairBoundaries {
         partners();
         pairsOfToldOnes();
         manyPairs();
+        asManyPairsAsSets();
         says();
         hushes();
         notAsLong();
