@@ -3,8 +3,8 @@ import java.nio.file.Files;
 import java.nio.file.Path;
 import java.util.ArrayList;
 import java.util.List;
-import java.util.TreeSet;
 import java.util.Set;
+import java.util.TreeSet;
 import java.util.regex.Matcher;
 import java.util.regex.Pattern;
 import java.util.stream.Stream;
@@ -123,12 +123,28 @@ public final class ReadmeTests {
         }
     }
 
+    /** It once said that a refused call changes the tape alone. */
+    private static void refusals(String readme) {
+        check("what a refused call changes", readme.replaceAll("\\s+", " ").contains("What such a call changes: `status()`,"
+            + " the count of such refusals (`count(11)` to `count(14)`), and if it was `tables()`, `fault()` and the tape,"
+            + " which is empty then."));
+        TwoWayWall x = new TwoWayWall();
+        x.feed(0, 0, 0, 0, 0);
+        check("a refused paint answers -1", x.paint(8, 0) == -1);
+        check("it changes status() and count(11)", x.status() == -1 && x.count(11) == 1);
+        check("it leaves fault() and the tape", x.fault() == -1 && x.count(10) == 20);
+        check("a refused tables answers -6", x.tables() == -6);
+        check("it changes status() and count(14)", x.status() == -6 && x.count(14) == 1 && x.count(11) == 1);
+        check("it changes fault() and the tape", x.fault() == 0 && x.count(10) == 0);
+    }
+
     public static void main(String[] args) throws IOException, InterruptedException {
         String readme = Files.readString(Path.of("README.md"));
         Path main = place();
         example(readme, main);
         commands(readme, main);
         names(readme);
+        refusals(readme);
         remove(main.getParent());
         System.out.println(checked + " things of README.md looked at, " + wrong + " not so");
         if (wrong != 0) {
